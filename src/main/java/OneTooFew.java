@@ -157,6 +157,7 @@ public final class OneTooFew {
         }
         System.arraycopy(evening.at, 0, seating.at, 0, MOST_GUESTS);
         int stood = seating.settle(told.everyone(), told.chairs);
+        seating.settleFaint(told.everyone());
         evening.end(told, seating, stood);
         return stood;
     }
@@ -680,16 +681,18 @@ public final class OneTooFew {
             this.told = told;
         }
 
-        /** Guests of a set take chairs of a set; who is left standing, by bits. */
+        /** Guests of a set, but for faint ones, take chairs of a set; who is left standing, by bits. */
         int settle(int among, int chairs) {
             Arrays.fill(seat, NONE);
             Arrays.fill(holder, NONE);
             second = false;
             free = chairs;
-            int faint = told.allOfKind(FAINT);
-            int standing = seatAll(among & ~faint);
-            seatAll(among & faint);
-            return standing;
+            return seatAll(among & ~told.allOfKind(FAINT));
+        }
+
+        /** Behind settle: faint ones take what is left; who stands is no other by it, so foretold calls go without. */
+        void settleFaint(int among) {
+            seatAll(among & told.allOfKind(FAINT));
         }
 
         /**
@@ -698,8 +701,8 @@ public final class OneTooFew {
          */
         private int seatAll(int set) {
             int waiting = set;
-            for (int effort = -1; effort <= told.farthest(); effort++) {
-                for (int g = 0; g < told.guests && free != 0 && waiting != 0; g++) {
+            for (int effort = -1; effort <= told.farthest() && free != 0 && waiting != 0; effort++) {
+                for (int g = 0; g < told.guests; g++) {
                     int chair = holds(waiting, g) ? told.leastAt(at[g], effort + told.ease(g), free) : NONE;
                     if (chair != NONE) {
                         seatOne(g, chair);
@@ -860,7 +863,7 @@ public final class OneTooFew {
             }
         }
 
-        /** How many minutes of a to b are like t: after as many minutes as there are places, all are where they were. */
+        /** How many minutes of a to b are like t: after as many as there are places, all are where they were. */
         int minutesLike(int t, int a, int b) {
             return minutesLikeTo(t, b) - minutesLikeTo(t, a - 1);
         }

@@ -543,7 +543,8 @@ public final class PromisesTest {
         x = Check.told("inn 12;chair 0;plain 2 0 0 1;plain 4 0 0 1");
         due("16: three back", x.surest(1, 1, 1, 0), 3);
         due("16: back", x.surest(1, 1, 1, 1), 1);
-        x = Check.told("inn 12;plain 2 2 1 1;plain 4 0 0 1");
+        Check.write(x, "take 0");
+        x.inn();
         due("16: without chairs always", x.surest(0, 0, 99, 2), 100);
         due("16: by pace 0", x.surest(0, 0, 99, 0), 0);
         x = Check.told("inn 9;chair 0;plain 2 0 0 1;plain 3 0 0 1");
