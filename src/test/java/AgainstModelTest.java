@@ -2,8 +2,11 @@ import java.util.Random;
 
 /** Runs of calls, the same each time, on the class and on the model: every answer must be alike. */
 public final class AgainstModelTest {
-    private static final int RUNS = 400;
-    private static final int CALLS = 250;
+    private static final int RUNS = 3000;
+    /** What later calls answer is free. */
+    private static final int MOST_CALLS = 512;
+    /** As many as the dearest call of a run and a look around behind it need. */
+    private static final int CALLS_AT_THE_END = 200;
     private static final String[] WORDS = {"inn", "chair", "take", "plain", "sly", "faint", "stout", "nobody"};
 
     private final Check check;
@@ -11,6 +14,7 @@ public final class AgainstModelTest {
     private OneTooFew x;
     private Model m;
     private int run;
+    private int calls;
 
     private AgainstModelTest(Check check, Random dice) {
         this.check = check;
@@ -28,15 +32,18 @@ public final class AgainstModelTest {
 
     private void oneRun(int number) {
         run = number;
+        calls = 0;
         x = new OneTooFew();
         m = new Model();
         if (run % 10 != 0) {
             tell(wholeInn());
         }
-        for (int call = 0; call < CALLS && !check.hasFailed(); call++) {
+        while (calls < MOST_CALLS - CALLS_AT_THE_END && !check.hasFailed()) {
             oneCall();
-            lookAround();
+            glance();
         }
+        lookAround();
+        check.holds("at most 512 calls on one object", calls <= MOST_CALLS);
     }
 
     private int to(int most) {
@@ -79,7 +86,7 @@ public final class AgainstModelTest {
     }
 
     private String someLine() {
-        int places = x.count(0);
+        int places = m.count(0);
         switch (to(9)) {
             case 0:
                 return "inn " + (2 + to(11));
@@ -138,6 +145,7 @@ public final class AgainstModelTest {
     }
 
     private void same(String call, int got, int want) {
+        calls++;
         check.due("run " + run + ", " + call, got, want);
     }
 
@@ -174,12 +182,12 @@ public final class AgainstModelTest {
     }
 
     private void foretoldCall() {
-        int guest = dice.nextInt(9) == 0 ? about(6) : to(Math.max(0, x.count(1) - 1));
+        int guest = dice.nextInt(9) == 0 ? about(6) : to(Math.max(0, m.count(1) - 1));
         int t = about(99);
         int a = dice.nextInt(9) == 0 ? about(99) : to(30);
         int b = dice.nextInt(9) == 0 ? about(99) : Math.min(99, a + to(20));
         int what = about(1);
-        int set = about((1 << x.count(1)) - 1);
+        int set = about((1 << m.count(1)) - 1);
         set = dice.nextInt(4) == 0 || set < 0 ? set : set & ~(1 << guest);
         String four = " " + guest + " " + a + " " + b + " " + what;
         switch (to(9)) {
@@ -198,7 +206,7 @@ public final class AgainstModelTest {
                     x.plot(guest, set, t, what), m.plot(guest, set, t, what));
             case 6 -> same("price " + t, x.price(t), m.price(t));
             case 7 -> {
-                int chairs = about(x.count(0));
+                int chairs = about(m.count(0));
                 if (dice.nextInt(12) == 0) {
                     same("laid " + chairs + four, x.laid(chairs, a, b, what), m.laid(chairs, a, b, what));
                 }
@@ -206,6 +214,16 @@ public final class AgainstModelTest {
             case 8 -> same("left " + t + " " + what, x.left(t, what), m.left(t, what));
             default -> same("fits " + what, x.fits(what), m.fits(what));
         }
+    }
+
+    /** A little of the state. */
+    private void glance() {
+        int what = to(7);
+        int place = to(11);
+        int guest = to(5);
+        same("count " + what, x.count(what), m.count(what));
+        same("place " + place + " " + what, x.place(place, what), m.place(place, what));
+        same("guest " + guest + " " + what, x.guest(guest, what), m.guest(guest, what));
     }
 
     /** All that can be seen of the state: a call that must change nothing is caught here. */

@@ -783,8 +783,8 @@ public final class PromisesTest {
             "inn 12;chair 0;chair 4;chair 11;sly 11 3 1 99;stout 0 3 0 99;faint 6 2 1 0;plain 5 1 0 9;stout 7 0 0 1;"
                 + "sly 2 2 1 1"};
         for (String text : texts) {
-            OneTooFew x = Check.told(text);
             for (int a : WILD) {
+                OneTooFew x = Check.told(text);
                 int least = wildOne(x, a);
                 for (int b : WILD) {
                     least = Math.min(least, wildTwo(x, a, b));
