@@ -222,7 +222,7 @@ public final class EveningEdgesTest {
     private static void ofSeveralTheLeastGuest() {
         standing("inn 8;chair 4;plain 3 0 0 0;plain 5 0 0 0", 2);
         standing("inn 8;chair 4;plain 5 0 0 0;plain 3 0 0 0", 2);
-        standing("inn 8;chair 4;plain 4 0 0 0;plain 4 0 0 0;plain 4 0 0 0;plain 4 0 0 0;plain 4 0 0 0;plain 4 0 0 0", 62);
+        standing("inn 8;chair 4" + ";plain 4 0 0 0".repeat(6), 62);
         standing("inn 8;chair 0;stout 7 0 0 0;plain 1 0 0 0", 2);
         standing("inn 8;chair 0;plain 1 0 0 0;stout 7 0 0 0", 2);
         // Guest 1 has the lesser place at the same effort, but the lesser guest goes first.
@@ -244,7 +244,8 @@ public final class EveningEdgesTest {
     private static void theLeastEffortGoesFirst() {
         standing("inn 8;chair 0;plain 2 0 0 0;plain 1 0 0 0", 1);
         standing("inn 8;chair 0;plain 2 0 0 0;plain 7 0 0 0", 1);
-        standing("inn 8;chair 0;plain 4 0 0 0;plain 5 0 0 0;plain 6 0 0 0;plain 7 0 0 0;plain 3 0 0 0;plain 0 0 0 0", 31);
+        standing("inn 8;chair 0;plain 4 0 0 0;plain 5 0 0 0;plain 6 0 0 0;plain 7 0 0 0;plain 3 0 0 0;plain 0 0 0 0",
+            31);
         // Guest 1 is nearer to 2, so that guest 0 goes to 6, though it is farther.
         seats("inn 9;chair 2;chair 6;plain 0 0 0 0;plain 3 0 0 0", 6, 2);
     }
@@ -412,7 +413,7 @@ public final class EveningEdgesTest {
         due("a stop behind play", x.stop(), 2);
     }
 
-    /** Promise 11: "all get up, where they sit (those STANDING, FAINT ones without a CHAIR where they are): MINUTES." */
+    /** Promise 11: "all get up, where they sit (those STANDING, FAINT ones without a CHAIR where they are)". */
     private static void playGetsAllUpWhereTheyAre() {
         OneTooFew x = Check.told("inn 9;chair 0;chair 4;stout 7 1 0 5;plain 3 1 1 6;faint 6 1 0 1;plain 6 1 0 1");
         x.walk(9);

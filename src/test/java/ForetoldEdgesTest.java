@@ -6,6 +6,7 @@ public final class ForetoldEdgesTest {
     private static final int NONE = -1, UNKNOWN = -2, OUTSIDE = -3, FULL = -5;
     private static final int[] NO_MINUTES = {-1, 100, -100, 101, 9999, Integer.MAX_VALUE, Integer.MIN_VALUE};
     private static final int[] WRONG_EITHER = {-1, 2, 3, 100, Integer.MAX_VALUE, Integer.MIN_VALUE};
+    private static final int SOME_CALLS = 17;
     private static final Check CHECK = new Check("edges of what is foretold");
 
     public static void main(String[] args) {
@@ -13,6 +14,7 @@ public final class ForetoldEdgesTest {
         spansAreOfMinutesNotBelowTheirBegin();
         standingIsAsAStopAtThatMinute();
         itIsForetoldFromTheBegin();
+        foretoldCallsAreApart();
         standingWithoutGuestsOrChairs();
         oddsAreInLowestTerms();
         oddsOfNeverAndAlways();
@@ -145,11 +147,51 @@ public final class ForetoldEdgesTest {
         }
     }
 
+    /** "(nothing changes)": no call's answer hangs on what was foretold ahead of it. */
+    private static void foretoldCallsAreApart() {
+        for (int first = 0; first < SOME_CALLS; first++) {
+            for (int then = 0; then < SOME_CALLS; then++) {
+                OneTooFew x = sixGuests();
+                someCall(x, first);
+                due("call " + then + " behind call " + first, someCall(x, then), someCall(sixGuests(), then));
+            }
+        }
+    }
+
+    /** Guest 5 is surest by pace 3 back at minute 1, guest 0 by pace 2 on over all minutes. */
+    private static OneTooFew sixGuests() {
+        return Check.told("inn 12;chair 0;plain 6 0 0 1;plain 2 0 0 2;faint 0 1 0 3;stout 4 0 0 4;sly 8 2 1 5;"
+            + "plain 4 1 0 6");
+    }
+
+    private static int someCall(OneTooFew x, int which) {
+        return switch (which) {
+            case 0 -> x.standing(1);
+            case 1 -> x.odds(5, 0, 9, 0);
+            case 2 -> x.surest(5, 1, 1, 0);
+            case 3 -> x.surest(5, 1, 1, 1);
+            case 4 -> x.surest(0, 0, 99, 0);
+            case 5 -> x.surest(0, 0, 99, 1);
+            case 6 -> x.still(0, 0, 0);
+            case 7 -> x.still(1, 3, 1);
+            case 8 -> x.plot(5, 31, 1, 0);
+            case 9 -> x.plot(2, 9, 1, 1);
+            case 10 -> x.price(0);
+            case 11 -> x.laid(2, 0, 3, 1);
+            case 12 -> x.laid(0, 0, 99, 0);
+            case 13 -> x.left(1, 0);
+            case 14 -> x.left(1, 1);
+            case 15 -> x.fits(0);
+            default -> x.fits(1);
+        };
+    }
+
     /** Promise 14 on the empty and the full. */
     private static void standingWithoutGuestsOrChairs() {
         due("without guests", new OneTooFew().standing(0), 0);
         due("without guests at 99", Check.told("chair 0").standing(99), 0);
-        OneTooFew x = Check.told("inn 9;plain 0 0 0 0;sly 0 0 0 0;stout 0 0 0 0;plain 0 0 0 0;faint 0 0 0 0;plain 0 0 0 0");
+        OneTooFew x = Check.told("inn 9;plain 0 0 0 0;sly 0 0 0 0;stout 0 0 0 0;plain 0 0 0 0;faint 0 0 0 0;"
+            + "plain 0 0 0 0");
         due("without chairs all but the faint one", x.standing(99), 47);
         x = Check.told("inn 3;chair 0;chair 1;chair 2;plain 0 1 0 0;sly 0 2 0 0;faint 0 0 0 0");
         due("a chair for each", x.standing(99), 0);
@@ -204,7 +246,8 @@ public final class ForetoldEdgesTest {
 
     private static void surest(OneTooFew x, int guest, int a, int b, int... want) {
         for (int what = 0; what < 3; what++) {
-            due("surest of " + guest + ", " + a + " to " + b + ", what " + what, x.surest(guest, a, b, what), want[what]);
+            String asked = "surest of " + guest + ", " + a + " to " + b + ", what " + what;
+            due(asked, x.surest(guest, a, b, what), want[what]);
         }
     }
 
@@ -246,6 +289,11 @@ public final class ForetoldEdgesTest {
         // Over minutes 1 and 2: by pace 3 back he is at 1, then at 10; by 2 back at 2, then at 0.
         x = Check.told("inn 12;chair 0;plain 2 0 0 0;plain 4 0 0 0");
         surest(x, 1, 1, 2, 2, 1, 1);
+        surest(x, 1, 1, 1, 3, 1, 0);
+        // Without chairs he is STANDING in all minutes, whatever was found ahead of it.
+        Check.write(x, "take 0");
+        x.inn();
+        surest(x, 1, 0, 99, 0, 0, 100);
     }
 
     /** "all else as told": the others walk as told, and he is where he was told to be. */
@@ -356,6 +404,13 @@ public final class ForetoldEdgesTest {
         plot(x, 0, 12, 1, 1, 4);
         plot(x, 0, 8, 1, 1, 8);
         plot(x, 0, 0, 1, NONE, NONE);
+        // Guest 0 and the last one are friends like any other.
+        x = Check.told("inn 9;chair 0;plain 0 3 0 0;plain 1 0 0 0;plain 0 3 0 0;plain 4 0 0 0;plain 4 0 0 0;"
+            + "plain 0 3 0 0");
+        plot(x, 1, 61, 1, 1, 1);
+        plot(x, 1, 60, 1, 1, 4);
+        plot(x, 1, 56, 1, 1, 32);
+        plot(x, 1, 24, 1, NONE, NONE);
         // The fewest go ahead of the least: guest 3 alone is enough, or guests 1 and 2 both.
         x = Check.told("inn 9;chair 1;chair 2;plain 0 0 0 0;plain 1 3 0 0;plain 2 3 0 0;stout 1 3 0 0");
         plot(x, 0, 14, 1, 1, 8);
@@ -404,6 +459,9 @@ public final class ForetoldEdgesTest {
         price("inn 9;chair 0;chair 1;chair 4;stout 0 0 0 99;plain 4 0 0 98;plain 4 0 0 2;faint 4 0 0 97", 2);
         price("inn 9;chair 0;chair 1;stout 0 0 0 1;plain 4 0 0 99", 99);
         price("inn 9;chair 0;chair 1;stout 0 0 0 1;stout 0 0 0 7", 7);
+        price("inn 9;chair 0;chair 1;plain 4 0 0 6;stout 0 0 0 1", 6);
+        price("inn 9;chair 0;chair 1;plain 4 0 0 6;plain 4 0 0 5;plain 4 0 0 4;plain 4 0 0 3;plain 4 0 0 7;"
+            + "stout 0 0 0 1", 7);
         price("inn 9;chair 0;chair 1;chair 2;stout 0 0 0 1;stout 0 0 0 7;sly 4 0 0 6", 7);
         price("inn 9;chair 0;chair 1;chair 2;stout 0 0 0 1;stout 0 0 0 7;plain 4 0 0 6", 6);
     }
@@ -479,10 +537,12 @@ public final class ForetoldEdgesTest {
         OneTooFew x = Check.told("inn 4;plain 0 0 0 1;faint 2 0 0 1");
         due("of one minute", x.laid(0, 99, 99, 0), 1);
         due("of all minutes", x.laid(0, 0, 99, 0), 100);
+        due("of all minutes, the set", x.laid(0, 0, 99, 1), 0);
         due("with a chair not at all", x.laid(1, 0, 99, 0), 0);
         x = Check.told("inn 4;plain 0 0 0 1;plain 2 0 0 1;plain 1 0 0 1");
         due("no chairs, all alike", x.laid(0, 0, 99, 0), 0);
         due("one chair, one sits always", x.laid(1, 0, 99, 0), 100);
+        due("one chair, the least set", x.laid(1, 0, 99, 1), 1);
         due("two chairs, two sit always", x.laid(2, 0, 99, 0), 100);
         due("three chairs, all sit", x.laid(3, 0, 99, 0), 0);
     }

@@ -108,7 +108,8 @@ public final class RefusedTest {
 
     /** Promise 5: "NOT: it has a FAULT." */
     private static void innRefuses() {
-        String[] faulty = {";", ";x", ";inn 2", ";inn 3;chair 3", ";chair 1", ";nobody;take 1;take 1", ";plain 0 0 0 0"};
+        String[] faulty = {";", ";x", ";inn 2", ";inn 3;chair 3", ";chair 1", ";nobody;take 1;take 1",
+            ";plain 0 0 0 0"};
         for (Scene scene : BOTH) {
             for (String more : faulty) {
                 refused("inn with '" + more + "'", new Scene(scene.name(), () -> {

@@ -79,6 +79,11 @@ public final class TextEdgesTest {
         due("places at first", x.count(0), 8);
         due("the last place at first", x.place(7, 0), 0);
         due("behind the last place at first", x.place(8, 0), UNKNOWN);
+        for (int place = 0; place < 8; place++) {
+            due("no chair at " + place, x.place(place, 0), 0);
+            due("nobody sits at " + place, x.place(place, 1), NONE);
+            due("nobody is at " + place, x.place(place, 2), 0);
+        }
         due("chairs at first", x.count(2), 0);
         due("guests at first", x.count(1), 0);
         due("guest 0 at first", x.guest(0, 0), UNKNOWN);
