@@ -1,53 +1,44 @@
-import java.io.File;
-import java.io.PrintWriter;
-import java.io.StringWriter;
+import java.io.IOException;
+import java.lang.reflect.Method;
 import java.lang.reflect.Modifier;
-import java.net.URISyntaxException;
-import java.util.ArrayList;
-import java.util.Arrays;
 import java.util.HashMap;
 import java.util.HashSet;
 import java.util.List;
 import java.util.Map;
 import java.util.Set;
-import java.util.TreeMap;
-import java.util.regex.Matcher;
-import java.util.regex.Pattern;
-import java.util.spi.ToolProvider;
 
-/** Those rules of LANGUAGE.md that can be told from the compiled class alone: what it calls, how deep, what it makes. */
+/** Those rules of LANGUAGE.md that can be told from the compiled class: what it calls, how deep, what it makes. */
 public final class CompiledTest {
     private static final int DEEPEST = 8;
-    /** Rule 4, as names of methods in a class file. */
+    /** Rule 4. */
     private static final List<String> LIBRARY = List.of(
-        "java/lang/Object\\.<init>",
-        "java/lang/String\\.(length|charAt|isEmpty|equals|indexOf|substring|toCharArray|<init>)",
-        "java/lang/StringBuilder\\.(<init>|append|charAt|setCharAt|setLength|deleteCharAt|reverse|length|toString)",
-        "java/util/(ArrayList|List)\\.(<init>|add|get|set|remove|size|isEmpty|clear|of)",
-        "java/lang/(Integer|Long|Math)\\.(?!\\w*Exact)\\w+",
-        "java/lang/System\\.arraycopy",
-        "java/util/Arrays\\.(copyOf|copyOfRange|fill)");
+        "java\\.lang\\.Object\\.<init>",
+        "java\\.lang\\.String\\.(length|charAt|isEmpty|equals|indexOf|substring|toCharArray|<init>)",
+        "java\\.lang\\.StringBuilder\\.(<init>|append|charAt|setCharAt|setLength|deleteCharAt|reverse|length|toString)",
+        "java\\.util\\.(ArrayList|List)\\.(<init>|add|get|set|remove|size|isEmpty|clear|of)",
+        "java\\.lang\\.(Integer|Long|Math)\\.(?!\\w*Exact)\\w+",
+        "java\\.lang\\.System\\.arraycopy",
+        "java\\.util\\.Arrays\\.(copyOf|copyOfRange|fill)");
     /** Instructions by which an object or a row is made. */
-    private static final Set<String> MAKERS = Set.of("new", "newarray", "anewarray", "multianewarray");
-    /** Instructions of what rules 2 and 6 leave out; a cast would need the test that makes it safe. */
-    private static final Set<String> BARRED = Set.of("athrow", "monitorenter", "monitorexit", "invokedynamic",
-        "checkcast", "jsr", "ret", "putstatic");
-    private static final Pattern CLASS = Pattern.compile("^(?:\\w+ )*class ([\\w$]+).*\\{$");
-    private static final Pattern METHOD = Pattern.compile("^  (?:[\\w$\\[\\].]+ )*([\\w$]+)\\((.*)\\);$");
-    private static final Pattern STEP = Pattern.compile("^ *\\d+: (\\w+)(?:.*// (?:Interface)?Method ([^:]+):.*)?.*$");
+    private static final Set<Integer> MAKERS = Set.of(ClassFile.NEW, ClassFile.NEWARRAY, ClassFile.ANEWARRAY,
+        ClassFile.MULTIANEWARRAY);
+    /** Instructions of what rules 2, 5 and 6 leave out, and casts, of which the class has none to be made safe. */
+    private static final Set<Integer> BARRED = Set.of(ClassFile.ATHROW, ClassFile.MONITORENTER, ClassFile.MONITOREXIT,
+        ClassFile.INVOKEDYNAMIC, ClassFile.CHECKCAST, ClassFile.PUTSTATIC);
     private static final Check CHECK = new Check("compiled");
 
     /** Own methods, each with the own methods that it calls. */
-    private static final Map<String, Set<String>> CALLS = new TreeMap<>();
+    private static final Map<String, Set<String>> CALLS = new HashMap<>();
     private static final Map<String, Integer> DEPTHS = new HashMap<>();
 
-    public static void main(String[] args) throws URISyntaxException {
-        readAll(listing());
-        CHECK.holds("the class was read", CALLS.size() > OneTooFew.class.getDeclaredMethods().length);
-        for (var method : OneTooFew.class.getDeclaredMethods()) {
+    public static void main(String[] args) throws IOException {
+        readAll(OneTooFew.class);
+        for (Class<?> inside : OneTooFew.class.getDeclaredClasses()) {
+            readAll(inside);
+        }
+        for (Method method : OneTooFew.class.getDeclaredMethods()) {
             if (Modifier.isPublic(method.getModifiers())) {
                 String name = "OneTooFew." + method.getName();
-                CHECK.holds(name + " was read", CALLS.containsKey(name));
                 int depth = depthOf(name, new HashSet<>());
                 CHECK.holds(name + " goes " + depth + " deep, at most " + DEEPEST + " are free", depth <= DEEPEST);
             }
@@ -55,53 +46,31 @@ public final class CompiledTest {
         CHECK.end();
     }
 
-    private static List<String> listing() throws URISyntaxException {
-        ToolProvider javap = ToolProvider.findFirst("javap").orElseThrow();
-        File classes = new File(OneTooFew.class.getProtectionDomain().getCodeSource().getLocation().toURI());
-        List<String> asked = new ArrayList<>(List.of("-p", "-c", "-cp", classes.getPath(), "OneTooFew"));
-        for (Class<?> inside : OneTooFew.class.getDeclaredClasses()) {
-            asked.add(inside.getName());
-        }
-        StringWriter out = new StringWriter();
-        int code = javap.run(new PrintWriter(out), new PrintWriter(System.err), asked.toArray(new String[0]));
-        CHECK.due("javap", code, 0);
-        return Arrays.asList(out.toString().split("\\R"));
-    }
-
-    private static void readAll(List<String> lines) {
-        String owner = "";
-        String method = "";
-        for (String line : lines) {
-            Matcher step = STEP.matcher(line);
-            Matcher isClass = CLASS.matcher(line);
-            Matcher isMethod = METHOD.matcher(line);
-            if (isClass.matches()) {
-                owner = isClass.group(1);
-            } else if (isMethod.matches()) {
-                method = isMethod.group(1).equals(owner) ? owner + ".<init>" : owner + "." + isMethod.group(1);
-                CHECK.holds(method + " has a name of its own", CALLS.put(method, new HashSet<>()) == null);
-            } else if (step.matches() && !method.isEmpty()) {
-                readStep(owner, method, step.group(1), step.group(2));
+    private static void readAll(Class<?> read) throws IOException {
+        for (ClassFile.Body body : new ClassFile(read).bodies()) {
+            String method = body.method();
+            CHECK.holds(method + " has a name of its own", CALLS.put(method, new HashSet<>()) == null);
+            CHECK.due(method + " catches nothing", body.catches(), 0);
+            CHECK.holds(method + " is no static block", !method.endsWith(".<clinit>"));
+            for (ClassFile.Step step : body.steps()) {
+                readStep(method, step);
             }
-            CHECK.holds(method + " catches nothing", !line.contains("Exception table"));
-            CHECK.holds(owner + " has no static block", !line.contains("static {}"));
+        }
+        for (Method method : read.getDeclaredMethods()) {
+            String name = read.getName() + "." + method.getName();
+            CHECK.holds(name + " was read", CALLS.containsKey(name));
         }
     }
 
-    private static void readStep(String owner, String method, String step, String called) {
-        CHECK.holds(method + " goes without " + step, !BARRED.contains(step));
-        if (MAKERS.contains(step)) {
-            CHECK.holds(method + " makes something, constructors alone may", method.endsWith(".<init>"));
+    private static void readStep(String method, ClassFile.Step step) {
+        CHECK.holds(method + " goes without instruction " + step.code(), !BARRED.contains(step.code()));
+        if (MAKERS.contains(step.code())) {
+            CHECK.holds(method + " makes something: constructors alone may", method.endsWith(".<init>"));
         }
-        if (called == null) {
-            return;
-        }
-        String plain = called.replace("\"", "");
-        String whole = plain.contains(".") ? plain : owner + "." + plain;
-        if (whole.startsWith("OneTooFew")) {
-            CALLS.get(method).add(whole);
-        } else {
-            CHECK.holds(method + " calls " + whole, LIBRARY.stream().anyMatch(whole::matches));
+        if (step.called().startsWith("OneTooFew")) {
+            CALLS.get(method).add(step.called());
+        } else if (!step.called().isEmpty()) {
+            CHECK.holds(method + " calls " + step.called(), LIBRARY.stream().anyMatch(step.called()::matches));
         }
     }
 
@@ -112,6 +81,7 @@ public final class CompiledTest {
         }
         boolean isNew = open.add(method);
         CHECK.holds(method + " does not come back to itself", isNew);
+        CHECK.holds(method + " is known", CALLS.containsKey(method));
         if (!isNew) {
             return 0;
         }
